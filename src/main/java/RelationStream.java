@@ -762,20 +762,18 @@ public final class RelationStream {
         private Node goUp(Node taskLeft, int depth) {
             Node left = taskLeft;
             for (int i = depth - 1; i >= 0; i--) {
-                left = stepParent(path[i], left);
+                Node parent = path[i];
+                if (parent.kind == SUM) {
+                    left = tree.stepSum(parent, left);
+                } else if (answered) {
+                    // The product's goal takes the answer over.
+                    answered = false;
+                    left = tree.stepProductWith(parent, left, answer);
+                } else {
+                    left = tree.stepProduct(parent, left);
+                }
             }
             return left;
-        }
-
-        private Node stepParent(Node parent, Node left) {
-            if (parent.kind == SUM) {
-                return tree.stepSum(parent, left);
-            }
-            if (answered) {
-                answered = false;
-                return tree.stepProductWith(parent, left, answer);
-            }
-            return tree.stepProduct(parent, left);
         }
 
         private Node stepTask(Node task) {

@@ -3,17 +3,6 @@ public final class AnswersTest {
     private AnswersTest() {
     }
 
-    private static RelationStream withPlacesAndAtoms() {
-        RelationStream x = new RelationStream();
-        for (int k = 0; k < 6; k++) {
-            x.place(k);
-        }
-        for (int a = 0; a < 4; a++) {
-            x.atom(a);
-        }
-        return x;
-    }
-
     private static int all(RelationStream x, int... goals) {
         int goal = goals[goals.length - 1];
         for (int i = goals.length - 2; i >= 0; i--) {
@@ -28,10 +17,10 @@ public final class AnswersTest {
     }
 
     private static void texts() {
-        RelationStream x = withPlacesAndAtoms();
+        RelationStream x = Check.withPlacesAndAtoms();
         int nested = x.pair(x.pair(1, 8), x.pair(2, 1));
         askAndRun(x, x.relate(true, 0, nested));
-        Check.text(x, 0, 0, 10, 10, 20, 1 + 1, 10, 21, 20);
+        Check.text(x, 0, 0, 10, 10, 20, 2, 10, 21, 20);
         Check.due("no conditions", x.conditions(0), 0);
         for (int part = 1; part <= 6; part++) {
             Check.text(x, 0, part);
@@ -68,7 +57,7 @@ public final class AnswersTest {
 
     /** It is the question's variable 0, not that of a frame that a call made. */
     private static void questionsVariable() {
-        RelationStream x = withPlacesAndAtoms();
+        RelationStream x = Check.withPlacesAndAtoms();
         x.define(0, x.relate(true, 0, 8));
         askAndRun(x, x.call(0, 1, 1, 1));
         Check.text(x, 0, 0, 20);
@@ -77,7 +66,7 @@ public final class AnswersTest {
     }
 
     private static void conditionTexts() {
-        RelationStream x = withPlacesAndAtoms();
+        RelationStream x = Check.withPlacesAndAtoms();
         int first = x.relate(false, 1, 7);
         int second = x.relate(false, x.pair(2, 1), x.pair(8, 0));
         int third = x.relate(false, 3, 2);
@@ -111,7 +100,7 @@ public final class AnswersTest {
 
     /** An answer keeps its own bindings and conditions, whatever the others come to. */
     private static void answersApart() {
-        RelationStream x = withPlacesAndAtoms();
+        RelationStream x = Check.withPlacesAndAtoms();
         int apart = x.relate(false, 0, 7);
         int other = x.relate(false, 0, 8);
         int sides = x.combine(false, x.combine(true, other, x.relate(true, 1, 7)), x.relate(true, 0, 9));
@@ -129,7 +118,7 @@ public final class AnswersTest {
     }
 
     private static void longTexts() {
-        RelationStream x = withPlacesAndAtoms();
+        RelationStream x = Check.withPlacesAndAtoms();
         int row = x.pair(1, 7);
         int made = 1;
         while (made < 19) {

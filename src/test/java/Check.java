@@ -18,6 +18,18 @@ final class Check {
     private Check() {
     }
 
+    /** Terms 0 .. 5 are the places, terms 6 .. 9 the atoms 0 .. 3. */
+    static RelationStream withPlacesAndAtoms() {
+        RelationStream x = new RelationStream();
+        for (int k = 0; k < 6; k++) {
+            x.place(k);
+        }
+        for (int a = 0; a < 4; a++) {
+            x.atom(a);
+        }
+        return x;
+    }
+
     static void due(String what, long got, long want) {
         looked++;
         if (got != want) {

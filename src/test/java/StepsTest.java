@@ -3,19 +3,8 @@ public final class StepsTest {
     private StepsTest() {
     }
 
-    private static RelationStream withPlacesAndAtoms() {
-        RelationStream x = new RelationStream();
-        for (int k = 0; k < 6; k++) {
-            x.place(k);
-        }
-        for (int a = 0; a < 4; a++) {
-            x.atom(a);
-        }
-        return x;
-    }
-
     private static void questions() {
-        RelationStream x = withPlacesAndAtoms();
+        RelationStream x = Check.withPlacesAndAtoms();
         int same = x.relate(true, 0, 7);
         int never = x.relate(true, 6, 7);
         x.ask(same);
@@ -40,7 +29,7 @@ public final class StepsTest {
     }
 
     private static void choices() {
-        RelationStream x = withPlacesAndAtoms();
+        RelationStream x = Check.withPlacesAndAtoms();
         int one = x.relate(true, 0, 7);
         int two = x.relate(true, 0, 8);
         int three = x.relate(true, 0, 9);
@@ -68,7 +57,7 @@ public final class StepsTest {
     }
 
     private static void products() {
-        RelationStream x = withPlacesAndAtoms();
+        RelationStream x = Check.withPlacesAndAtoms();
         int either = x.combine(false, x.relate(true, 0, 7), x.relate(true, 0, 8));
         int other = x.combine(false, x.relate(true, 1, 7), x.relate(true, 1, 8));
         int pair = x.pair(1, 2);
@@ -96,7 +85,7 @@ public final class StepsTest {
     }
 
     private static void calls() {
-        RelationStream x = withPlacesAndAtoms();
+        RelationStream x = Check.withPlacesAndAtoms();
         int list = x.pair(1, 2);
         int goal = x.relate(true, 0, list);
         x.define(1, goal);
@@ -127,7 +116,7 @@ public final class StepsTest {
 
     /** Bindings that are made by matching that fails, or is only tried, count; conditions that are decided do not. */
     private static void whatCounts() {
-        RelationStream x = withPlacesAndAtoms();
+        RelationStream x = Check.withPlacesAndAtoms();
         int left = x.pair(0, 7);
         int right = x.pair(8, 9);
         x.ask(x.relate(true, left, right));
@@ -157,7 +146,7 @@ public final class StepsTest {
 
     /** Conditions are looked at in their order, till one is broken: the bindings that are tried tell. */
     private static void tillOneIsBroken() {
-        RelationStream x = withPlacesAndAtoms();
+        RelationStream x = Check.withPlacesAndAtoms();
         int first = x.relate(false, 0, 7);
         int second = x.relate(false, 1, 7);
         int break0 = x.relate(true, 0, 7);
@@ -173,7 +162,7 @@ public final class StepsTest {
 
     /** Both sides of a choice come to their turn, however long the one goes on. */
     private static void noSideWaits() {
-        RelationStream x = withPlacesAndAtoms();
+        RelationStream x = Check.withPlacesAndAtoms();
         int again = x.call(0, 0, 0, 0);
         x.define(0, again);
         x.ask(x.combine(false, again, x.relate(true, 0, 7)));
