@@ -1,183 +1,229 @@
-/** Promises 9 to 12: ask, run, status and count, and what one step after the other does to the tree. */
+/** The section Terms: what a step of a task, a sum and a product leaves, and what is left when it leaves nothing. */
 public final class StepsTest {
     private StepsTest() {
     }
 
-    private static void questions() {
-        RelationStream x = Check.withPlacesAndAtoms();
-        int same = x.relate(true, 0, 7);
-        int never = x.relate(true, 6, 7);
-        x.ask(same);
-        Check.due("asked", x.status(), 1);
-        Check.counts("asked", x, 0, 1, 0, 0, 1, 0, 0, 0);
-        Check.refused("run(201)", Check.ARGUMENT, () -> x.run(201, false));
-        Check.refused("run(-1)", Check.ARGUMENT, () -> x.run(-1, true));
-        Check.due("run(0)", x.run(0, false), 0);
-        Check.counts("after no step", x, 0, 1, 0, 0, 1, 0, 0, 0);
-        Check.due("run(200)", x.run(200, false), 1);
-        Check.due("ended", x.status(), 2);
-        Check.counts("ended", x, 1, 0, 0, 0, 1, 1, 0, 1);
-        Check.due("run after the end", x.run(5, true), 0);
-        Check.refusedAction("a wrong question", Check.ARGUMENT, () -> x.ask(40));
-        Check.counts("the question before is still there", x, 1, 0, 0, 0, 1, 1, 0, 1);
-        x.ask(never);
-        Check.refused("its answers are gone", Check.INDEX, () -> x.text(0, 0, 0));
-        Check.counts("asked again", x, 0, 1, 0, 0, 1, 0, 0, 0);
-        Check.due("a match that fails", x.run(3, true), 1);
-        Check.due("ended", x.status(), 2);
-        Check.counts("failed", x, 0, 0, 0, 0, 1, 0, 0, 1);
+    /** Does so many steps, none of which gives an answer, and looks at tasks, sums and products. */
+    private static void after(String what, RelationStream x, int steps, int tasks, int sums, int products) {
+        int answers = x.count(0);
+        Check.due(what + ": steps", x.run(steps, true), steps);
+        Check.counts(what, x, answers, tasks, sums, products);
     }
 
-    private static void choices() {
+    private static void eitherIsASum() {
+        Check.about("EITHER: a sum of the tasks of the two goals is left.");
+        RelationStream x = Check.withPlacesAndAtoms();
+        x.ask(x.combine(false, x.relate(true, 0, 7), x.relate(true, 0, 8)));
+        after("a sum", x, 1, 2, 1, 0);
+        Check.due("the first goal first", x.run(1, true), 1);
+        Check.text(x, 0, 0, 1);
+        Check.due("then the second", x.run(1, true), 1);
+        Check.text(x, 1, 0, 2);
+        Check.counts("each with the state that there was", x, 2, 0, 0, 0, 1, 2, 0, 3);
+    }
+
+    private static void bothIsAProduct() {
+        Check.about("BOTH: a product of the task of the first goal and the second goal.");
+        RelationStream x = Check.withPlacesAndAtoms();
+        int pair = x.pair(1, 7);
+        x.ask(x.combine(true, x.relate(true, 0, pair), x.relate(true, 1, 8)));
+        after("a product", x, 1, 1, 0, 1);
+        after("the first goal's answer goes to the second", x, 1, 1, 0, 0);
+        Check.due("the last step", x.run(1, true), 1);
+        Check.text(x, 0, 0, 10, 2, 1);
+        Check.counts("ended", x, 1, 0, 0, 0, 1, 2, 0, 3);
+    }
+
+    private static void callMakesAFrame() {
+        Check.about("CALL: a new frame; its variables 0, 1, 2 are bound to the three terms; the task of the relation's "
+                + "goal is left");
+        RelationStream x = Check.withPlacesAndAtoms();
+        int row = x.pair(0, x.pair(1, 2));
+        x.define(1, x.relate(true, 1, row));
+        x.ask(x.call(1, 7, 0, 8));
+        after("a task", x, 1, 1, 0, 0);
+        Check.counts("a frame and three bindings", x, 0, 1, 0, 0, 2, 3, 0, 1);
+        Check.due("place 1 occurs in the row", x.run(200, false), 1);
+        Check.due("so that there is no answer", x.count(0), 0);
+        x.define(1, x.relate(true, 0, x.pair(1, x.pair(2, 6))));
+        Check.askAndRun(x, x.call(1, 0, 8, 9));
+        Check.text(x, 0, 0, 10, 2, 10, 3, 0);
+        Check.askAndRun(x, x.call(1, 0, 4, x.pair(4, 5)));
+        Check.text(x, 0, 0, 10, 20, 10, 10, 20, 21, 0);
+        Check.counts("four bindings", x, 1, 0, 0, 0, 2, 4, 0, 2);
+    }
+
+    private static void sixVariables() {
+        Check.about("Where a goal is used there are six VARIABLES that its terms' places 0 .. 5 stand for (its FRAME).");
+        RelationStream x = Check.withPlacesAndAtoms();
+        int row = x.pair(3, x.pair(4, 5));
+        int fresh = x.relate(true, 0, row);
+        x.define(0, fresh);
+        int first = x.call(0, 1, 6, 6);
+        int second = x.call(0, 2, 6, 6);
+        int whole = x.relate(true, 0, x.pair(row, x.pair(1, 2)));
+        Check.askAndRun(x, Check.all(x, first, second, whole));
+        Check.text(x, 0, 0, 10, 10, 20, 10, 21, 22, 10, 10, 23, 10, 24, 25, 10, 26, 10, 27, 28);
+        Check.due("a frame for each call, and the question's", x.count(4), 3);
+        Check.askAndRun(x, Check.all(x, fresh, x.relate(true, 5, 9)));
+        Check.text(x, 0, 0, 10, 20, 10, 21, 3);
+        Check.due("BOTH stays in its frame", x.count(4), 1);
+    }
+
+    private static void callOfNothing() {
+        Check.about("(nothing, and no new frame, if it has none)");
+        RelationStream x = Check.withPlacesAndAtoms();
+        int call = x.call(2, 0, 0, 0);
+        int goal = x.relate(true, 0, 7);
+        Check.due("alone: steps", Check.askAndRun(x, call), 1);
+        Check.due("alone: status", x.status(), 2);
+        Check.counts("alone", x, 0, 0, 0, 0, 1, 0, 0, 1);
+        int either = x.combine(false, call, goal);
+        x.ask(either);
+        after("a sum leaves its second tree", x, 2, 1, 0, 0);
+        Check.counts("no frame, no bindings", x, 0, 1, 0, 0, 1, 0, 0, 2);
+        Check.due("which goes on", x.run(200, false), 1);
+        Check.text(x, 0, 0, 1);
+        Check.due("a product leaves nothing", Check.askAndRun(x, x.combine(true, call, goal)), 2);
+        Check.counts("a product", x, 0, 0, 0, 0, 1, 0, 0, 2);
+        x.define(2, goal);
+        Check.due("with a goal: steps", Check.askAndRun(x, call), 2);
+        Check.counts("with a goal", x, 1, 0, 0, 0, 2, 4, 0, 2);
+    }
+
+    private static void sumWhoseFirstLeavesNothing() {
+        Check.about("SUM: a step of its first tree; if that leaves nothing, the second tree is left");
+        RelationStream x = Check.withPlacesAndAtoms();
+        int one = x.relate(true, 0, 7);
+        int never = x.relate(true, 6, 7);
+        int apart = x.relate(false, 7, 7);
+        int rest = x.combine(true, one, one);
+        for (int goal : new int[] {never, apart}) {
+            x.ask(x.combine(false, goal, rest));
+            after("without an answer", x, 2, 1, 0, 0);
+            after("the second tree does its step", x, 1, 1, 0, 1);
+        }
+        x.ask(x.combine(false, one, rest));
+        Check.due("with an answer", x.run(200, true), 2);
+        Check.counts("with an answer", x, 1, 1, 0, 0);
+        after("the second tree does its step", x, 1, 1, 0, 1);
+        Check.due("to the end", x.run(200, false), 2);
+        Check.due("both have their answers", x.count(0), 2);
+    }
+
+    private static void sumWhoseFirstGoesOn() {
+        Check.about("else a sum of the second tree and what was left, in this order; its answer is that of the step");
         RelationStream x = Check.withPlacesAndAtoms();
         int one = x.relate(true, 0, 7);
         int two = x.relate(true, 0, 8);
         int three = x.relate(true, 0, 9);
         int left = x.combine(false, one, two);
-        int all = x.combine(false, left, three);
-        x.ask(all);
-        x.run(1, true);
-        Check.counts("a sum of two tasks", x, 0, 2, 1, 0);
-        x.run(1, true);
-        Check.counts("a sum of a task and a sum", x, 0, 3, 2, 0);
-        Check.due("till an answer", x.run(9, true), 1);
+        x.ask(x.combine(false, left, three));
+        after("the first tree is split", x, 2, 3, 2, 0);
+        Check.due("the second tree's turn", x.run(200, true), 1);
         Check.text(x, 0, 0, 3);
-        Check.counts("the second tree is left", x, 1, 2, 1, 0);
-        Check.due("till an answer", x.run(9, true), 1);
+        Check.counts("what was left", x, 1, 2, 1, 0);
+        Check.due("it goes on", x.run(200, true), 1);
         Check.text(x, 1, 0, 1);
-        Check.due("to the end", x.run(9, true), 1);
+        Check.due("to its end", x.run(200, true), 1);
         Check.text(x, 2, 0, 2);
         Check.counts("ended", x, 3, 0, 0, 0, 1, 3, 0, 5);
-        int turned = x.combine(false, one, left);
-        x.ask(turned);
-        Check.due("the first, then the split, then its parts", x.run(200, false), 5);
-        Check.text(x, 0, 0, 1);
-        Check.text(x, 1, 0, 1);
-        Check.text(x, 2, 0, 2);
+        x.ask(x.combine(false, x.combine(false, left, left), x.combine(false, three, three)));
+        after("three splits, in turn", x, 3, 4, 3, 0);
+        int[] told = {3, 3, 1, 1, 2, 2};
+        x.run(200, false);
+        for (int i = 0; i < told.length; i++) {
+            Check.text(x, i, 0, told[i]);
+        }
     }
 
-    private static void products() {
+    private static void productWithoutAnAnswer() {
+        Check.about("Without an answer: if that leaves nothing, nothing is left; else a product of what was left and "
+                + "the goal.");
+        RelationStream x = Check.withPlacesAndAtoms();
+        int one = x.relate(true, 0, 7);
+        int never = x.relate(true, 6, 7);
+        Check.due("nothing is left", Check.askAndRun(x, x.combine(true, never, one)), 2);
+        Check.due("nothing is left: status", x.status(), 2);
+        Check.counts("nothing is left", x, 0, 0, 0, 0, 1, 0, 0, 2);
+        x.ask(x.combine(true, x.combine(false, never, one), one));
+        after("a product of a sum", x, 2, 2, 1, 1);
+        after("a product of what was left", x, 1, 1, 0, 1);
+        after("then the goal's task", x, 1, 1, 0, 0);
+        Check.due("and its answer", x.run(200, true), 1);
+        Check.due("one answer", x.count(0), 1);
+        x.ask(x.combine(true, x.combine(true, never, one), one));
+        after("a product of a product", x, 2, 1, 0, 2);
+        after("nothing is left of both", x, 1, 0, 0, 0);
+        Check.due("ended", x.status(), 2);
+    }
+
+    private static void productWithAnAnswer() {
+        Check.about("With an answer: the task of the goal with that state, and, if that leaves a tree, a sum of that "
+                + "task and a product of what was left and the goal.");
         RelationStream x = Check.withPlacesAndAtoms();
         int either = x.combine(false, x.relate(true, 0, 7), x.relate(true, 0, 8));
         int other = x.combine(false, x.relate(true, 1, 7), x.relate(true, 1, 8));
-        int pair = x.pair(1, 2);
-        int same = x.relate(true, 0, pair);
-        int both = x.combine(true, either, other);
-        x.ask(both);
-        x.run(1, false);
-        Check.counts("BOTH", x, 0, 1, 0, 1);
-        x.run(1, false);
-        Check.counts("a product of a sum", x, 0, 2, 1, 1);
-        Check.due("a product gives no answer", x.run(1, true), 1);
-        Check.counts("a sum of the goal's task and the product", x, 0, 2, 1, 1, 1, 1, 0, 3);
-        x.run(1, false);
-        Check.counts("the task became a sum and went behind", x, 0, 3, 2, 1);
-        x.run(1, false);
-        Check.counts("the product became its goal's task", x, 0, 3, 2, 0);
+        x.ask(x.combine(true, x.relate(true, 0, 7), other));
+        after("nothing was left: the goal's task", x, 2, 1, 0, 0);
+        Check.due("two answers", x.run(200, false), 3);
+        Check.counts("two answers", x, 2, 0, 0, 0, 1, 3, 0, 5);
+        x.ask(x.combine(true, either, other));
+        after("a product of a sum", x, 2, 2, 1, 1);
+        after("a tree was left: a sum of the task and the product", x, 1, 2, 1, 1);
+        after("the task comes first and becomes a sum, which goes behind", x, 1, 3, 2, 1);
+        after("the product becomes its goal's task", x, 1, 3, 2, 0);
         Check.due("to the end", x.run(200, false), 5);
-        Check.counts("ended", x, 4, 0, 0, 0, 1, 6, 0, 10);
-        x.ask(x.combine(true, same, x.relate(true, 0, 7)));
-        Check.due("the second fails", x.run(200, false), 3);
-        Check.counts("no answer", x, 0, 0, 0, 0, 1, 1, 0, 3);
-        x.ask(x.combine(true, x.relate(true, 6, 7), either));
-        Check.due("the first fails: nothing is left", x.run(200, false), 2);
-        Check.counts("nothing is left", x, 0, 0, 0, 0, 1, 0, 0, 2);
+        Check.counts("each answer with each", x, 4, 0, 0, 0, 1, 6, 0, 10);
+        int[] told = {1, 1, 2, 2};
+        for (int i = 0; i < told.length; i++) {
+            Check.text(x, i, 0, told[i]);
+        }
     }
 
-    private static void calls() {
+    private static void productGivesNoAnswer() {
+        Check.about("(A product never gives an answer.)");
         RelationStream x = Check.withPlacesAndAtoms();
-        int list = x.pair(1, 2);
-        int goal = x.relate(true, 0, list);
-        x.define(1, goal);
-        int swapped = x.call(1, 0, 7, 8);
-        x.ask(swapped);
-        x.run(1, false);
-        Check.counts("a frame and three bindings", x, 0, 1, 0, 0, 2, 3, 0, 1);
-        x.run(1, false);
-        Check.text(x, 0, 0, 10, 1, 2);
-        Check.counts("ended", x, 1, 0, 0, 0, 2, 4, 0, 2);
-        int own = x.relate(true, 0, x.pair(3, 0));
-        x.define(2, own);
-        x.ask(x.call(2, 1, 1, 1));
-        Check.due("place 0 is the caller's, which occurs", x.run(9, true), 2);
-        Check.counts("it fails", x, 0, 0, 0, 0, 2, 3, 0, 2);
-        int fresh = x.relate(true, 0, x.pair(3, 4));
-        x.define(3, fresh);
-        x.ask(x.combine(true, x.call(3, 0, 6, 6), x.call(3, 3, 6, 6)));
-        x.run(50, false);
-        Check.text(x, 0, 0, 10, 20, 21);
-        Check.due("frames", x.count(4), 3);
-        int deep = x.relate(true, 1, 7);
-        x.define(0, deep);
-        x.ask(x.combine(true, x.relate(true, 0, 4), x.call(0, 6, 4, 6)));
-        x.run(50, false);
-        Check.text(x, 0, 0, 1);
+        int one = x.relate(true, 0, 7);
+        x.ask(x.combine(true, one, x.relate(true, 1, 8)));
+        after("its tree's answer is none of the question's", x, 2, 1, 0, 0);
+        Check.due("the goal's is", x.run(200, true), 1);
+        Check.counts("one answer", x, 1, 0, 0, 0, 1, 2, 0, 3);
+        Check.due("the goal fails", Check.askAndRun(x, x.combine(true, one, x.relate(true, 6, 7))), 3);
+        Check.counts("the goal fails", x, 0, 0, 0, 0, 1, 1, 0, 3);
+        x.ask(x.combine(true, x.combine(true, one, one), one));
+        after("the inner product's answer goes to the inner goal alone", x, 3, 1, 0, 1);
+        after("then to the outer goal", x, 1, 1, 0, 0);
     }
 
-    /** Bindings that are made by matching that fails, or is only tried, count; conditions that are decided do not. */
-    private static void whatCounts() {
-        RelationStream x = Check.withPlacesAndAtoms();
-        int left = x.pair(0, 7);
-        int right = x.pair(8, 9);
-        x.ask(x.relate(true, left, right));
-        x.run(1, false);
-        Check.counts("a match that fails late", x, 0, 0, 0, 0, 1, 1, 0, 1);
-        x.ask(x.relate(false, left, right));
-        x.run(1, false);
-        Check.counts("a condition that is decided", x, 1, 0, 0, 0, 1, 1, 0, 1);
-        Check.due("it is not kept", x.conditions(0), 0);
-        int apart = x.relate(false, 0, 7);
-        x.ask(apart);
-        x.run(1, false);
-        Check.counts("a condition", x, 1, 0, 0, 0, 1, 1, 1, 1);
-        x.ask(x.relate(false, 7, 7));
-        x.run(1, false);
-        Check.counts("a condition that is broken", x, 0, 0, 0, 0, 1, 0, 0, 1);
-        x.ask(x.combine(true, apart, x.relate(true, 1, 7)));
-        x.run(9, false);
-        Check.counts("a condition is tried again by SAME", x, 1, 0, 0, 0, 1, 3, 1, 3);
-        x.ask(x.combine(true, apart, x.relate(true, 0, 7)));
-        x.run(9, false);
-        Check.counts("and may be broken", x, 0, 0, 0, 0, 1, 2, 1, 3);
-        x.ask(x.combine(true, apart, x.relate(false, 1, 7)));
-        x.run(9, false);
-        Check.counts("DIFFER leaves the others alone", x, 1, 0, 0, 0, 1, 2, 2, 3);
-    }
-
-    /** Conditions are looked at in their order, till one is broken: the bindings that are tried tell. */
-    private static void tillOneIsBroken() {
-        RelationStream x = Check.withPlacesAndAtoms();
-        int first = x.relate(false, 0, 7);
-        int second = x.relate(false, 1, 7);
-        int break0 = x.relate(true, 0, 7);
-        int break1 = x.relate(true, 1, 7);
-        int set = x.combine(true, first, second);
-        x.ask(x.combine(true, set, break0));
-        x.run(9, false);
-        Check.counts("the first is broken, the second not looked at", x, 0, 0, 0, 0, 1, 3, 2);
-        x.ask(x.combine(true, set, break1));
-        x.run(9, false);
-        Check.counts("the first was looked at", x, 0, 0, 0, 0, 1, 4, 2);
-    }
-
-    /** Both sides of a choice come to their turn, however long the one goes on. */
     private static void noSideWaits() {
+        Check.about("in turn on both sides of a choice, so that no side waits for ever");
         RelationStream x = Check.withPlacesAndAtoms();
         int again = x.call(0, 0, 0, 0);
         x.define(0, again);
-        x.ask(x.combine(false, again, x.relate(true, 0, 7)));
+        int goal = x.relate(true, 0, 7);
+        x.ask(x.combine(false, again, goal));
         Check.due("an answer beside a call without end", x.run(200, true), 3);
-        Check.due("it goes on", x.status(), 1);
         Check.text(x, 0, 0, 1);
+        x.ask(x.combine(false, goal, again));
+        Check.due("and on the other side", x.run(200, true), 2);
+        Check.due("it goes on", x.status(), 1);
+        x.ask(x.combine(false, again, x.combine(false, again, goal)));
+        Check.due("between two calls without end", x.run(200, true), 7);
+        Check.due("it goes on", x.status(), 1);
     }
 
     public static void main(String[] args) {
-        questions();
-        choices();
-        products();
-        calls();
-        whatCounts();
-        tillOneIsBroken();
+        eitherIsASum();
+        bothIsAProduct();
+        callMakesAFrame();
+        sixVariables();
+        callOfNothing();
+        sumWhoseFirstLeavesNothing();
+        sumWhoseFirstGoesOn();
+        productWithoutAnAnswer();
+        productWithAnAnswer();
+        productGivesNoAnswer();
         noSideWaits();
         Check.end();
     }
