@@ -46,8 +46,13 @@ public final class LimitsTest {
     private static void isFullBehind(String what, RelationStream x, int goal, int steps) {
         x.ask(goal);
         runSteps(what, x, steps);
-        Check.due(what + ": status before", x.status(), 1);
         Check.due(what + ": steps before", x.count(7), steps);
+        isFullNext(what, x);
+    }
+
+    /** The next step is too much. */
+    private static void isFullNext(String what, RelationStream x) {
+        Check.due(what + ": status before", x.status(), 1);
         String before = Check.seenCounts(x);
         Check.due(what + ": the step that is too much", x.run(1, true), 0);
         Check.due(what + ": status", x.status(), 3);
@@ -147,6 +152,38 @@ public final class LimitsTest {
         isFullBehind("501 looks with one more that would be broken", x, Check.all(x, open, open, broken, same), 6);
         ends("497 looks till one is broken", x, Check.all(x, broken, open, open, same), 7, 0);
         ends("499 looks till one is broken", x, Check.all(x, open, broken, open, same), 7, 0);
+    }
+
+    /** Pairs within first halves, 25 more with each call, so that many second halves wait at once; then one goal. */
+    private static RelationStream deepPairs(boolean inside, int calls) {
+        RelationStream x = Check.withPlacesAndAtoms();
+        int deep = 3;
+        for (int i = 0; i < 25; i++) {
+            deep = x.pair(deep, 6);
+        }
+        int call = x.call(0, 3, 1, 2);
+        x.define(0, x.combine(true, x.relate(true, 0, deep), call));
+        x.ask(x.call(0, 0, 0, 0));
+        runSteps("calls", x, 3 * calls);
+        x.define(0, x.relate(true, inside ? 4 : 1, 1));
+        runSteps("the last call", x, 1);
+        return x;
+    }
+
+    private static void looksIntoTheDeep() {
+        Check.about("500 looks");
+        for (boolean inside : new boolean[] {false, true}) {
+            RelationStream x = deepPairs(inside, 9);
+            Check.due("225 pairs: the last step", x.run(200, false), 1);
+            Check.due("225 pairs: status", x.status(), 2);
+            Check.due("225 pairs: answers", x.count(0), 1);
+            for (int i = 0; i < 40; i++) {
+                Check.due("the text is of pairs alone", x.text(0, 0, i), 10);
+            }
+            isFullNext("250 pairs", deepPairs(inside, 10));
+            isFullNext("525 pairs", deepPairs(inside, 21));
+            isFullNext("950 pairs", deepPairs(inside, 38));
+        }
     }
 
     private static void looksOfEachStep() {
@@ -333,8 +370,8 @@ public final class LimitsTest {
     }
 
     /** BOTHs within BOTHs, so many: products within products, of one task. */
-    private static int chain(RelationStream x, int goal, int products) {
-        int chain = goal;
+    private static int chain(RelationStream x, int first, int goal, int products) {
+        int chain = first;
         for (int i = 0; i < products; i++) {
             chain = x.combine(true, chain, goal);
         }
@@ -347,7 +384,7 @@ public final class LimitsTest {
         x.place(0);
         x.atom(1);
         int goal = x.relate(true, 0, 1);
-        int less = chain(x, goal, 28);
+        int less = chain(x, goal, goal, 28);
         int more = x.combine(true, less, goal);
         int fits = x.combine(false, more, less);
         x.ask(fits);
@@ -357,6 +394,31 @@ public final class LimitsTest {
         ends("60 and then fewer", x, fits, 58 + 30 + 29, 2);
         isFullBehind("from 60 to 61", x, x.combine(false, more, more), 58);
         Check.counts("60", x, 0, 2, 1, 57, 1, 0, 0, 58);
+    }
+
+    /** Relation 0 gets another goal before each call, so that there are 59 products of one task. */
+    private static void treeOfOneTask() {
+        Check.about("a tree of more than 60 tasks, sums and products together");
+        RelationStream x = new RelationStream();
+        x.place(0);
+        x.atom(1);
+        int goal = x.relate(true, 0, 1);
+        int call = x.call(0, 0, 0, 0);
+        int less = chain(x, call, goal, 19);
+        int more = x.combine(true, less, goal);
+        x.ask(more);
+        runSteps("20 products", x, 20);
+        x.define(0, more);
+        runSteps("40 products", x, 21);
+        x.define(0, less);
+        runSteps("59 products", x, 20);
+        Check.counts("60 of 60", x, 0, 1, 0, 59, 3, 6, 0, 61);
+        x.define(0, goal);
+        Check.due("to the end: a call, and a goal for each product and one", x.run(200, false), 61);
+        Check.counts("ended", x, 1, 0, 0, 0, 4, 10, 0, 122);
+        x.define(0, more);
+        isFullBehind("60 products of one task", x, more, 61);
+        Check.counts("59 products", x, 0, 1, 0, 59, 3, 6, 0, 61);
     }
 
     private static void answersOfOneQuestion() {
@@ -434,6 +496,7 @@ public final class LimitsTest {
         looksOfWhatFails();
         looksTillItIsFound();
         looksAtConditions();
+        looksIntoTheDeep();
         looksOfEachStep();
         framesAtOnce();
         framesOneByOne();
@@ -444,6 +507,7 @@ public final class LimitsTest {
         bindingsOfACall();
         treeBySums();
         treeByProducts();
+        treeOfOneTask();
         answersOfOneQuestion();
         stepsBehindAnswer20();
         suchAStep();

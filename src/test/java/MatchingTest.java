@@ -52,6 +52,26 @@ public final class MatchingTest {
         Check.text(x, 0, 0, 3);
     }
 
+    private static void pairsOfOtherFrames() {
+        Check.about("A STATE has BINDINGS of variables to terms (with the frame of these)");
+        RelationStream x = Check.withPlacesAndAtoms();
+        int pair = x.pair(4, 3);
+        int whole = x.relate(true, 0, pair);
+        int call = x.call(0, pair, 6, 6);
+        x.define(0, x.relate(true, 0, x.pair(3, 4)));
+        Check.askAndRun(x, x.combine(true, whole, call));
+        Check.counts("each half is bound to a variable of the other frame", x, 1, 0, 0, 0, 2, 6);
+        Check.text(x, 0, 0, 10, 20, 21);
+        x.define(0, x.relate(true, x.pair(3, 8), 0));
+        Check.askAndRun(x, x.combine(true, whole, call));
+        Check.text(x, 0, 0, 10, 20, 2);
+        x.define(0, x.relate(false, 0, x.pair(3, 8)));
+        Check.askAndRun(x, x.combine(true, whole, call));
+        Check.text(x, 0, 0, 10, 20, 21);
+        Check.text(x, 0, 1, 10, 20, 21);
+        Check.text(x, 0, 2, 10, 22, 2);
+    }
+
     private static void sameVariableOrEqualAtoms() {
         Check.about("if they are the same variable or equal atoms, nothing");
         RelationStream x = Check.withPlacesAndAtoms();
@@ -96,6 +116,14 @@ public final class MatchingTest {
         Check.text(x, 0, 0, 10, 20, 3);
         same("two variables", x, 0, 1, 1, 1);
         Check.text(x, 0, 0, 20);
+        same("an atom and the place of its number", x, 7, 1, 1, 1);
+        same("a place and the atom of its number", x, 1, 7, 1, 1);
+        RelationStream y = new RelationStream();
+        y.place(1);
+        y.place(0);
+        y.pair(0, 0);
+        same("a pair of term 0, and place 0", y, 2, 1, 1, 1);
+        same("place 0, and a pair of term 0", y, 1, 2, 1, 1);
     }
 
     private static void mustNotOccur() {
@@ -292,6 +320,7 @@ public final class MatchingTest {
     public static void main(String[] args) {
         whatATermIs();
         throughAllFrames();
+        pairsOfOtherFrames();
         sameVariableOrEqualAtoms();
         unequalAtoms();
         firstOrSecond();

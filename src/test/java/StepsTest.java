@@ -22,6 +22,28 @@ public final class StepsTest {
         Check.counts("each with the state that there was", x, 2, 0, 0, 0, 1, 2, 0, 3);
     }
 
+    private static void sidesHaveTheirOwnStates() {
+        Check.about("A TREE is a TASK (a goal, a frame, a state)");
+        RelationStream x = Check.withPlacesAndAtoms();
+        int one = x.relate(true, 0, 7);
+        int apart = x.relate(false, 0, 7);
+        x.define(0, x.relate(true, 0, 8));
+        int call = x.call(0, 0, 6, 6);
+        Check.askAndRun(x, x.combine(false, one, call));
+        Check.text(x, 0, 0, 1);
+        Check.text(x, 1, 0, 2);
+        Check.askAndRun(x, x.combine(false, apart, one));
+        Check.due("a condition", x.conditions(0), 1);
+        Check.text(x, 1, 0, 1);
+        Check.due("none of the other side", x.conditions(1), 0);
+        Check.askAndRun(x, x.combine(false, one, apart));
+        Check.text(x, 1, 0, 20);
+        Check.due("a condition, and no binding of the other side", x.conditions(1), 1);
+        Check.askAndRun(x, x.combine(false, apart, x.relate(false, 1, 8)));
+        Check.text(x, 1, 1, 21);
+        Check.due("no condition of the other side", x.conditions(1), 1);
+    }
+
     private static void bothIsAProduct() {
         Check.about("BOTH: a product of the task of the first goal and the second goal.");
         RelationStream x = Check.withPlacesAndAtoms();
@@ -215,6 +237,7 @@ public final class StepsTest {
 
     public static void main(String[] args) {
         eitherIsASum();
+        sidesHaveTheirOwnStates();
         bothIsAProduct();
         callMakesAFrame();
         sixVariables();
