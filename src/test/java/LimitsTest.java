@@ -444,7 +444,7 @@ public final class LimitsTest {
 
     /** With 20 answers a question goes on till there is one more; a product's own answers are none of them. */
     private static void stepsBehindAnswer20() {
-        Check.about("when a step comes to more than: 20 answers");
+        Check.about("or 20 answers");
         RelationStream x = new RelationStream();
         x.place(0);
         x.atom(1);

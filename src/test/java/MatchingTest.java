@@ -216,7 +216,8 @@ public final class MatchingTest {
     }
 
     private static void nothingIsLeftIfSameFails() {
-        Check.about("SAME: the terms are matched; if that fails, or a condition is BROKEN then: nothing is left");
+        Check.about("SAME: the terms are matched; if that fails, or a condition is BROKEN then (all are looked at in order, "
+                + "till one is): nothing is left");
         RelationStream x = Check.withPlacesAndAtoms();
         same("it fails", x, 6, 7, 0, 0);
         int apart = x.relate(false, 0, 7);
