@@ -7,10 +7,15 @@ import java.util.TreeSet;
 
 /** The class shows the document's face and nothing else, and 512 calls make next to no objects. */
 public final class FaceTest {
+    private static final String ARGUMENT = " throws IllegalArgumentException";
+    private static final String BOTH = ARGUMENT + " IllegalStateException";
+    private static final String INDEX = " throws IndexOutOfBoundsException";
     private static final Set<String> FACE = Set.of(
-            "int atom(int)", "int place(int)", "int pair(int,int)", "int relate(boolean,int,int)",
-            "int combine(boolean,int,int)", "int call(int,int,int,int)", "void define(int,int)", "void ask(int)",
-            "int run(int,boolean)", "int status()", "int count(int)", "int text(int,int,int)", "int conditions(int)");
+            "int atom(int)" + BOTH, "int place(int)" + BOTH, "int pair(int,int)" + BOTH,
+            "int relate(boolean,int,int)" + BOTH, "int combine(boolean,int,int)" + BOTH,
+            "int call(int,int,int,int)" + BOTH, "void define(int,int)" + ARGUMENT, "void ask(int)" + ARGUMENT,
+            "int run(int,boolean)" + BOTH, "int status()", "int count(int)" + INDEX, "int text(int,int,int)" + INDEX,
+            "int conditions(int)" + INDEX);
 
     private FaceTest() {
     }
@@ -23,7 +28,13 @@ public final class FaceTest {
             text.append(between).append(type);
             between = ",";
         }
-        return text.append(')').toString();
+        text.append(')');
+        String before = " throws ";
+        for (Class<?> type : method.getExceptionTypes()) {
+            text.append(before).append(type.getSimpleName());
+            before = " ";
+        }
+        return text.toString();
     }
 
     private static void face() {
@@ -45,6 +56,9 @@ public final class FaceTest {
         for (Field field : RelationStream.class.getDeclaredFields()) {
             Check.due(field + " is private", Modifier.isPrivate(field.getModifiers()) ? 1 : 0, 1);
             Check.due(field + " is final", Modifier.isFinal(field.getModifiers()) ? 1 : 0, 1);
+            boolean isConstant = Modifier.isStatic(field.getModifiers());
+            Check.due(field + " is a constant of int or belongs to the object",
+                    !isConstant || field.getType() == int.class ? 1 : 0, 1);
         }
         Constructor<?>[] constructors = RelationStream.class.getDeclaredConstructors();
         Check.due("constructors", constructors.length, 1);
@@ -62,6 +76,12 @@ public final class FaceTest {
             Check.due(one + " is not public or protected",
                     one.getModifiers() & (Modifier.PUBLIC | Modifier.PROTECTED), 0);
             Check.due(one + " has at most twenty fields", one.getDeclaredFields().length <= 20 ? 1 : 0, 1);
+            for (Field field : one.getDeclaredFields()) {
+                Check.due(field + " is not static", Modifier.isStatic(field.getModifiers()) ? 1 : 0, 0);
+            }
+            for (Method method : one.getDeclaredMethods()) {
+                Check.due(method + " takes at most seven", method.getParameterCount() <= 7 ? 1 : 0, 1);
+            }
         }
     }
 
